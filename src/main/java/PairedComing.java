@@ -270,7 +270,8 @@ public final class PairedComing {
         if (mean.isStale(board.version)) {
             mean.start(board.version);
             trial.copyOf(board);
-            overRanks(trialRun, rules[r], mean, 0);
+            // A rule that asks for no rank runs alike in all ways: one is as good as all.
+            overRanks(trialRun, rules[r], mean, rules[r].asksRank() ? 0 : board.posts);
         }
         return inLowestTerms(mean.sum, mean.ways, what);
     }
@@ -977,6 +978,15 @@ public final class PairedComing {
                 }
             }
             return false;
+        }
+
+        boolean asksRank() {
+            for (int i = 0; i < tests; i++) {
+                if (testKind[i] == Tape.RANK_KEY) {
+                    return true;
+                }
+            }
+            return hasKey(Tape.RANK_KEY);
         }
 
         void addKey(int kind, boolean least) {

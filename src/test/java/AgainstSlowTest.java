@@ -19,8 +19,8 @@ public final class AgainstSlowTest {
     private AgainstSlowTest(long seed) {
         random = new Random(seed);
         boolean large = seed % 8 == 0;
-        mostPosts = large ? 7 : 1 + random.nextInt(4);
-        mostGuests = large ? 10 : random.nextInt(6);
+        mostPosts = large ? 7 : 1 + random.nextInt(5);
+        mostGuests = large ? 10 : random.nextInt(7);
     }
 
     public static void main(String[] args) {
@@ -36,6 +36,15 @@ public final class AgainstSlowTest {
                 System.out.println("seed " + seed + ":\n" + one.log);
             }
         }
+        for (int seed = 0; seed < 40 && wrong < 5; seed++) {
+            AgainstSlowTest one = new AgainstSlowTest(-8L * seed);
+            one.goLarge();
+            calls += one.calls;
+            if (one.wrong > 0) {
+                wrong++;
+                System.out.println("large, seed " + seed + ":\n" + one.log);
+            }
+        }
         System.out.println(calls + " calls held against the slow one, " + wrong + " runs went wrong");
         if (wrong > 0) System.exit(1);
     }
@@ -45,6 +54,32 @@ public final class AgainstSlowTest {
         int setUp = random.nextInt(3);
         if (setUp > 0) build();
         while (calls < 512 && wrong == 0) oneOf();
+    }
+
+    /** As many posts, rooms and guests as there may be, and all that is worked out over all ways rooms may be free. */
+    private void goLarge() {
+        for (int i = 0; i < 20; i++) post();
+        for (int i = 0; i < 9; i++) guest();
+        for (int g = 0; g < slow.net.guests.size(); g++) {
+            for (int p = 0; p < slow.net.posts.size(); p++) worth(g, p, random.nextInt(4) > 0 ? aWorth() : 0);
+            int v = upTo(9);
+            due("chance(" + g + ", " + v + ")", fast.chance(g, v), slow.chance(g, v));
+        }
+        for (int n = 0; n <= 6; n++) {
+            for (int what = 0; what < 2; what++) {
+                due("hope(" + n + ", " + what + ")", fast.hope(n, what), slow.hope(n, what));
+            }
+            for (int g = 0; g < 9; g++) due("hopeFor(" + g + ", " + n + ")", fast.hopeFor(g, n), slow.hopeFor(g, n));
+        }
+        for (int p = 0; p < slow.net.posts.size(); p++) due("price(" + p + ")", fast.price(p), slow.price(p));
+        for (int g = 0; g < 9; g++) due("bestOf(" + g + ")", fast.bestOf(g), slow.bestOf(g));
+        for (int b = 1; b <= 9; b++) {
+            due("batch(" + b + ", 0)", fast.batch(b, 0), slow.batch(b, 0));
+            for (int g = 0; g < 9; g++) {
+                int what = 10 + g;
+                due("batch(" + b + ", " + what + ")", fast.batch(b, what), slow.batch(b, what));
+            }
+        }
     }
 
     private void due(String call, long got, long want) {
@@ -219,11 +254,11 @@ public final class AgainstSlowTest {
 
     private void markets() {
         int g = aGuest(), p = aPost(), r = aRule(), what = what(4, slow.net.guests.size());
-        switch (random.nextInt(8)) {
-            case 0, 1 -> due("come(" + g + ", " + r + ")", fast.come(g, r), slow.come(g, r));
+        switch (random.nextInt(9)) {
+            case 0, 1, 8 -> due("come(" + g + ", " + r + ")", fast.come(g, r), slow.come(g, r));
             case 2 -> due("let(" + g + ", " + p + ")", fast.let(g, p), slow.let(g, p));
             case 3 -> due("leave(" + g + ")", fast.leave(g), slow.leave(g));
-            case 4 -> { for (int i = upTo(5); i >= 0; i--) due("undo()", fast.undo(), slow.undo()); }
+            case 4 -> { for (int i = upTo(upTo(18)); i > 0; i--) due("undo()", fast.undo(), slow.undo()); }
             case 5 -> {
                 for (int i = 3; i <= 5; i++) due("told(" + p + ", " + i + ")", fast.told(p, i), slow.told(p, i));
             }

@@ -249,6 +249,15 @@ public final class PromisesTest {
         fault("by + 100", 5, 2);
         fault("by +worths;", 4, 1);
         fault("by +wor th;", 4, 1);
+        fault("by +worthz;", 4, 1);
+        fault("by +aworth;", 4, 1);
+        fault("by +forth;", 4, 1);
+        fault("my +worth;", 0, 1);
+        fault("by +worth of left>1;", 10, 1);
+        fault("by +worth if >1;", 13, 2);
+        fault("by +worth if left 1;", 18, 2);
+        fault("by +worth if left<<1;", 18, 2);
+        fault("by +worth if left>1 and >2;", 24, 2);
         fault("by +abcdefghijklmnopqrstuvwxyz;", 4, 1);
         fault("by +worth -left;", 10, 2);
         fault("by +worth,-left,+worth;", 17, 3);
