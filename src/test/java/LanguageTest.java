@@ -6,7 +6,9 @@ import java.nio.charset.StandardCharsets;
 import java.nio.file.Files;
 import java.nio.file.Path;
 import java.util.Arrays;
+import java.util.Map;
 import java.util.Set;
+import java.util.TreeMap;
 import java.util.TreeSet;
 import java.util.regex.Matcher;
 import java.util.regex.Pattern;
@@ -30,6 +32,7 @@ public final class LanguageTest {
         checkClassesInside();
         checkText();
         checkMethods();
+        checkDepth();
         System.out.println(wrong == 0 ? "the face and the text are as the rules say" : wrong + " rules are broken");
         if (wrong > 0) System.exit(1);
     }
@@ -125,6 +128,47 @@ public final class LanguageTest {
         while (imports.find()) {
             must(Set.of("java.util.Arrays", "java.util.ArrayList", "java.util.List").contains(imports.group(1)),
                 "rule 4: import of " + imports.group(1));
+        }
+    }
+
+    /** Which of the file's methods each one calls, by their names alone: what bears one name counts as one. */
+    private static Map<String, Set<String>> calls() throws Exception {
+        Map<String, Set<String>> calls = new TreeMap<>();
+        String code = code().replaceAll("\\b(Arrays|System|Math)\\.\\w+\\(", "(");
+        String name = "";
+        for (String line : code.split("\n")) {
+            Matcher head = Pattern.compile("^(?: {4}| {8})(?:\\w+ )*\\w+(?:\\[\\])? (\\w+)\\(.*\\) \\{$").matcher(line);
+            if (head.find()) {
+                name = head.group(1);
+                calls.putIfAbsent(name, new TreeSet<>());
+                continue;
+            }
+            Matcher call = Pattern.compile("\\b(\\w+)\\(").matcher(line);
+            while (call.find() && !name.isEmpty()) calls.get(name).add(call.group(1));
+        }
+        for (Set<String> called : calls.values()) called.retainAll(calls.keySet());
+        return calls;
+    }
+
+    private static int depth(Map<String, Set<String>> calls, String name, Set<String> open) {
+        int deepest = 0;
+        for (String called : calls.get(name)) {
+            if (called.equals(name)) continue;
+            if (!open.add(called)) {
+                must(false, "rule 8: " + called + " calls itself by way of " + name);
+                continue;
+            }
+            deepest = Math.max(deepest, depth(calls, called, open));
+            open.remove(called);
+        }
+        return deepest + 1;
+    }
+
+    private static void checkDepth() throws Exception {
+        Map<String, Set<String>> calls = calls();
+        for (String name : calls.keySet()) {
+            int deep = depth(calls, name, new TreeSet<>(Set.of(name)));
+            must(deep <= 8, "rule 11: calls from " + name + " go " + deep + " deep");
         }
     }
 
